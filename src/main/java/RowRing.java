@@ -218,7 +218,6 @@ public final class RowRing {
             return NONE;
         }
         history.keep(world.state);
-        mill.under(world.force);
         return mill.openDoor(world.state);
     }
 

@@ -92,6 +92,13 @@ public final class RowRingPromisesTest {
         return r.rule();
     }
 
+    /** The rule that is the first n bytes of a text. */
+    private static int cutRule(RowRing r, String text, int n) {
+        tell(r, text);
+        r.end(n);
+        return r.rule();
+    }
+
     private static RowRing ring(String smithy, String... rules) {
         RowRing r = new RowRing();
         if (smith(r, smithy) < 0) {
@@ -327,6 +334,14 @@ public final class RowRingPromisesTest {
         due("minds of the old one", r.saying(0, 0, 0), 5);
         due("said", r.saying(0, 0, 1), 0);
         due("no pair 2", r.pair(2, 0), NONE);
+        due("the same without near", smith(r, "smith 9 8;pair 1 2;pair 3 4;saying 5"), 2);
+        due("near of the old one", r.pair(0, 4), 0);
+        due("near of the old one", r.pair(1, 4), 0);
+        r.say(0, 0);
+        due("a band", r.pair(0, 3), 6);
+        due("the same once more", smith(r, "smith 9 8;pair 1 2;pair 3 4;saying 5"), 2);
+        due("no size", r.pair(0, 3), 0);
+        due("no band", r.pair(0, 2), 0);
         due("of the same two the last", ring("smith 1 1;pair 0 1;saying 2;minds 0 0 9;minds 0 0 3").saying(0, 0, 0), 5);
         due("of the same two the last", ring("smith 1 1;pair 0 1;saying 2;minds 0 0 9;minds 0 0 0").saying(0, 0, 0), 2);
         due("near is not said of others", ring("smith 1 1;pair 0 1;pair 0 1;pair 0 1;near 2 0").pair(1, 4), 0);
@@ -358,6 +373,8 @@ public final class RowRingPromisesTest {
         ruleFault("say 1 if 1", 10, 0);
         ruleFault("say 1 if 1 < ", 13, 0);
         ruleFault("say 1 if 1 < = 2", 13, 0);
+        ruleFault("say 1 if 1 <=", 13, 0);
+        ruleFault("say 1 if 1 >= ", 14, 0);
         ruleFault("say 1 if 1 == 2", 12, 0);
         ruleFault("say 1 if 1 =< 2", 12, 0);
         ruleFault("say 1 if 1 <> 2", 12, 0);
@@ -436,6 +453,19 @@ public final class RowRingPromisesTest {
         RowRing r = new RowRing();
         due("a rule with a fault", rule(r, "say 1 if"), fault(8, 0));
         due("rules", r.count(4), 0);
+        due("its bytes stay", r.count(13), 8);
+        // What was read of a text with a fault leaves nothing behind.
+        String long60 = "say 1" + "+1".repeat(57) + " if [[[[[[[[[[1";
+        due("a long and deep one", rule(r, long60), fault(long60.length(), 0));
+        due("bytes behind the end are not read", cutRule(r, "say 1 if 1 <=2", 12), fault(12, 0));
+        due("bytes behind the end are not read", cutRule(r, "say hurtful", 8), 0);
+        r = ring("smith 9 1;pair 0 99;saying 5");
+        rule(r, "say 0-9;say 1;say [");
+        due("a deep one behind faults", rule(r, "say 1" + "+1".repeat(50) + " if " + "not ".repeat(10) + "1<2"), 0);
+        r.force(0);
+        r.day();
+        due("it is all that is taken", r.saying(0, 0, 1), 1);
+        r = new RowRing();
         for (int i = 0; i < 6; i++) {
             due("rule " + i, rule(r, "say " + i), i);
             due("bytes", r.count(13), 0);
@@ -772,6 +802,12 @@ public final class RowRingPromisesTest {
         // One with a band hears nothing.
         due("again", q.say(0, 0), 0);
         due("temper 1", q.pair(1, 0), 0);
+        // That one was asked about at home keeps nobody from hearing.
+        RowRing asked = ring("smith 9 1;pair 0 99;pair 0 99;saying 8;near 0 1");
+        asked.home(3, 0);
+        asked.strike(3, 0);
+        asked.say(0, 0);
+        due("temper 1", asked.pair(1, 0), 4);
     }
 
     private static void soothing() {
@@ -1086,6 +1122,9 @@ public final class RowRingPromisesTest {
         due("gold(11, 1)", s.gold(11, 1), 4);
         due("gold(11, 2)", s.gold(11, 2), 3);
         due("gold(11, 3)", s.gold(11, 3), 0);
+        RowRing thin = ring("smith 1 1;pair 9 1;saying 0");
+        thin.say(0, 0);
+        due("all to a band of 1", thin.gold(7, 0), 7);
     }
 
     private static void hearing() {
@@ -1155,6 +1194,8 @@ public final class RowRingPromisesTest {
         r.day();
         due("spark of one with a band", r.spark(0), NONE);
         due("above breaks one is needed", ring("smith 9 1;pair 9 3;saying 4").spark(0), 1);
+        due("at breaks one is needed", ring("smith 9 1;pair 3 3;saying 4").spark(0), 1);
+        due("at breaks one that does not hurt will do", ring("smith 9 1;pair 3 3;saying 0").spark(0), 1);
         due("above breaks one that does not hurt will do", ring("smith 9 1;pair 9 3;saying 0").spark(0), 1);
         due("above breaks, but no sayings", ring("smith 9 1;pair 9 3").spark(0), -2);
         due("nothing hurts", ring("smith 9 1;pair 2 3;saying 0").spark(0), -2);
@@ -1171,6 +1212,8 @@ public final class RowRingPromisesTest {
         due("calm(1, 2)", r.calm(1, 2), -2);
         due("calm(1, -1)", r.calm(1, -1), -2);
         RowRing quiet = ring("smith 9 1;pair 9 99");
+        RowRing just = ring("smith 9 1;pair 4 5;saying 4");
+        due("0, not 1", just.calm(1, 1), 0);
         due("none is as good", quiet.calm(30, 0), NONE);
         due("none is as good", quiet.calm(30, 1), 0);
         RowRing two = ring("smith 9 1;pair 0 99;pair 9 10;pair 9 10;saying 1");
@@ -1303,6 +1346,16 @@ public final class RowRingPromisesTest {
         due("no rule is so", s.look(2, 1), -2);
         due("no pairs", ring("smith 9 1").look(2, 0), -2);
         due("no pairs", ring("smith 9 1").look(2, 1), -2);
+        RowRing six = ring("smith 99 1;pair 0 4;saying 4;saying 5;saying 6;saying 7;saying 8;saying 9",
+            "say 1", "say 1 if saying = 1", "say 1 if saying = 2", "say 1 if saying = 3", "say 1 if saying = 4",
+            "say 1 if saying = 5");
+        // By none 9; by the rules 4, 5, 6, 7, 8, 9.
+        due("none and six rules", six.look(1, 1), 2);
+        due("none and six rules", six.ruled(0), 7);
+        six.note(1, 0, 8);
+        due("one alone", six.look(1, 1), 1);
+        due("one alone", six.look(1, 0), 0);
+        due("one alone", six.ruled(1), 4);
     }
 
     private static void seeding() {
@@ -1429,6 +1482,15 @@ public final class RowRingPromisesTest {
         r.note(NONE, 0, 0);
         due("back(0)", r.back(0), 1);
         due("notes", r.count(10), 1);
+        RowRing noted = ring(THREE, GENTLE);
+        noted.note(1, 1, 11);
+        noted.image(2);
+        noted.note(NONE, 0, 0);
+        noted.note(2, 0, 15);
+        due("rule 0", noted.ruled(1), 0);
+        noted.back(2);
+        due("the note as it was", noted.ruled(1), NONE);
+        due("the note as it was", noted.ruled(0), 1);
         RowRing empty = new RowRing();
         due("an image of nothing", empty.image(2), 0);
         smith(empty, THREE);
