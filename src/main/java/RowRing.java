@@ -84,6 +84,7 @@ public final class RowRing {
 
     public int smith() {
         spare.readFrom(tape);
+        tape.clear();
         if (tape.fault != 0) {
             return -2 - tape.fault;
         }
@@ -91,7 +92,6 @@ public final class RowRing {
         world.state.begin(world.smithy);
         world.notes = 0;
         history.forget();
-        tape.length = 0;
         return world.smithy.pairs;
     }
 
@@ -100,10 +100,10 @@ public final class RowRing {
             return NONE;
         }
         ruleReader.readInto(rules[ruleCount]);
+        tape.clear();
         if (tape.fault != 0) {
             return -2 - tape.fault;
         }
-        tape.length = 0;
         ruleCount++;
         return ruleCount - 1;
     }
@@ -427,6 +427,11 @@ public final class RowRing {
                     length++;
                 }
             }
+        }
+
+        /** A text that was read is gone, with a fault too; the fault itself can still be told. */
+        void clear() {
+            length = 0;
         }
 
         void rewind() {

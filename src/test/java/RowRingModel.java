@@ -588,12 +588,13 @@ public final class RowRingModel {
     }
 
     public int smith() {
+        Text told = text();
+        tape.clear();
         try {
-            smithy = readSmithy(text());
+            smithy = readSmithy(told);
         } catch (Fault f) {
             return -2 - f.number;
         }
-        tape.clear();
         state = begin();
         notes = new ArrayList<>();
         undos.clear();
@@ -604,12 +605,13 @@ public final class RowRingModel {
         if (rules.size() == 6) {
             return NONE;
         }
+        Text told = text();
+        tape.clear();
         try {
-            rules.add(new RuleText(text()).read());
+            rules.add(new RuleText(told).read());
         } catch (Fault f) {
             return -2 - f.number;
         }
-        tape.clear();
         return rules.size() - 1;
     }
 

@@ -318,10 +318,20 @@ public final class RowRingPromisesTest {
         days(r, 2);
         r.say(2, 0);
         String before = all(r);
+        int acts = r.count(11);
         due("a smithy with a fault", smith(r, "smith 1 1;pair 0"), fault(16, 0));
-        due("its bytes stay", r.count(13), 16);
-        r.end(0);
-        same("behind a fault all stays", all(r), before);
+        due("its bytes are gone", r.count(13), 0);
+        due("an empty tape is the next smithy", r.smith(), fault(0, 0));
+        same("behind a fault all else stays", all(r), before);
+        due("acts can be undone behind a fault", r.undo(), acts - 1);
+        r.say(2, 0);
+        same("behind the act done again", all(r), before);
+        // What is fed behind a fault is a text of its own.
+        due("feed behind a fault", r.feed(0x736d6974, 0x68203920, 0x383b7061, 0x69722037, 0x20362020), 20);
+        due("a smithy without the bytes of the fault", r.smith(), 1);
+        due("its widest", r.count(0), 9);
+        due("bytes behind a smithy", r.count(13), 0);
+        due("the rule in force stays", r.count(5), 0);
         due("a smithy in its place", smith(r, "smith 9 8;pair 1 2;pair 3 4;saying 5;near 1 0;near 0 1"), 2);
         int[] counts = {9, 8, 2, 1, 1, 0, 0, 0, 0, 0, 0, 0, 77, 0};
         for (int what = 0; what < counts.length; what++) {
@@ -453,7 +463,17 @@ public final class RowRingPromisesTest {
         RowRing r = new RowRing();
         due("a rule with a fault", rule(r, "say 1 if"), fault(8, 0));
         due("rules", r.count(4), 0);
-        due("its bytes stay", r.count(13), 8);
+        due("its bytes are gone", r.count(13), 0);
+        due("an empty tape is the next rule", r.rule(), fault(0, 0));
+        // "say 1234567890123456", whose fault lies ahead of its end
+        r.feed(0x73617920, 0x31323334, 0x35363738, 0x39303132, 0x33343536);
+        due("a rule with a fault of a number", r.rule(), fault(4, 1));
+        due("its bytes are gone, too", r.count(13), 0);
+        // "say 1" and blanks
+        r.feed(0x73617920, 0x31202020, 0x20202020, 0x20202020, 0x20202020);
+        due("a text of its own behind a fault", r.rule(), 0);
+        due("rules", r.count(4), 1);
+        r = new RowRing();
         // What was read of a text with a fault leaves nothing behind.
         String long60 = "say 1" + "+1".repeat(57) + " if [[[[[[[[[[1";
         due("a long and deep one", rule(r, long60), fault(long60.length(), 0));
@@ -473,7 +493,10 @@ public final class RowRingPromisesTest {
         }
         due("a seventh rule", rule(r, "say 1"), NONE);
         due("its bytes stay", r.count(13), 5);
+        due("a seventh rule once more", r.rule(), NONE);
+        due("its bytes stay", r.count(13), 5);
         due("a seventh rule with a fault", rule(r, "say"), NONE);
+        due("its bytes stay", r.count(13), 3);
         due("rules", r.count(4), 6);
         due("none is in force by that", r.count(5), NONE);
     }
