@@ -1480,19 +1480,22 @@ public final class RowRing {
             }
         }
 
-        /** Bands behind the day asked for are kept where the next that fits has its place. */
+        /**
+         * Days are numbered from 0, and notes are of how it is when a day has gone by. Bands behind the day
+         * asked for are kept where the next that fits has its place.
+         */
         private boolean fitsNotes(int number, int day) {
             trial.begin(world.smithy);
             mill.under(number);
             int last = Math.max(day, lastNoted());
             for (int n = 0; n <= last; n++) {
+                mill.passDay(trial);
                 if (!notesHold(n)) {
                     return false;
                 }
                 if (n == day) {
                     System.arraycopy(trial.wide, 0, fitWide, fits * MOST_PAIRS, MOST_PAIRS);
                 }
-                mill.passDay(trial);
             }
             return true;
         }

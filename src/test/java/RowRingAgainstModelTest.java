@@ -277,7 +277,7 @@ public final class RowRingAgainstModelTest {
         int pair = aPair();
         int n = some(0, 60);
         // Now and then as it is with the rule in force at the begin, so that notes hold more often.
-        int wide = random.nextInt(4) == 0 ? some(0, 99) : Math.max(0, model.ahead(pair, n, 1));
+        int wide = random.nextInt(4) == 0 ? some(0, 99) : Math.max(0, model.ahead(pair, n + 1, 1));
         return call("note", n, pair, wide);
     }
 

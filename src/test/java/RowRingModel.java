@@ -988,7 +988,8 @@ public final class RowRingModel {
         Days d = new Days();
         d.rule = rule == NONE ? null : rules.get(rule);
         State s = begin();
-        goDays(s, d, n);
+        // DAY 0 is the 0-th; behind it is when it has gone by.
+        goDays(s, d, n + 1);
         return s.wide;
     }
 

@@ -1306,14 +1306,16 @@ public final class RowRingPromisesTest {
         RowRing r = ring(THREE, GENTLE, "say 0");
         due("without notes all are so", r.ruled(0), 3);
         due("the first is none", r.ruled(1), NONE);
-        r.note(1, 0, 12);
+        // Pair 0 has 12, 0, 0 behind day 0 by none and the rules, and 12, 15, 0 behind day 1; pair 1 has
+        // 11, 0, 0 and 11, 15, 0.
+        r.note(0, 0, 12);
         due("none alone", r.ruled(0), 1);
         due("none alone", r.ruled(1), NONE);
         r.note(NONE, 0, 0);
-        r.note(1, 1, 0);
+        r.note(0, 1, 0);
         due("both rules", r.ruled(0), 2);
         due("the first", r.ruled(1), 0);
-        r.note(2, 1, 15);
+        r.note(1, 1, 15);
         due("rule 0", r.ruled(0), 1);
         due("rule 0", r.ruled(1), 0);
         r.note(60, 2, 1);
@@ -1323,61 +1325,91 @@ public final class RowRingPromisesTest {
         due("ruled(-1)", r.ruled(-1), -3);
         r.note(NONE, 0, 0);
         r.note(0, 0, 1);
-        due("nobody has a band at the begin", r.ruled(0), 0);
+        due("nobody has a band so wide behind day 0", r.ruled(0), 0);
         // It is asked from the begin on, not from now on, and whichever rule is in force.
         r.note(NONE, 0, 0);
         r.say(1, 1);
         r.say(1, 1);
         days(r, 12);
-        r.note(1, 0, 12);
+        r.note(0, 0, 12);
         due("none, from the begin on", r.ruled(1), NONE);
         due("none, from the begin on", r.ruled(0), 1);
         RowRing s = ring(THREE);
         due("no rules: none", s.ruled(0), 1);
         s.note(60, 0, 98);
         due("no rules: none is not so", s.ruled(1), -2);
-        RowRing last = ring("smith 9 1;pair 0 5;saying 5", "say 1 if day = 59");
+        rulingByDays();
+    }
+
+    private static void rulingByDays() {
+        RowRing first = ring("smith 10 1;pair 9 10;saying 5");
+        first.note(0, 0, 0);
+        due("day 0 has gone by", first.ruled(0), 0);
+        first.note(NONE, 0, 0);
+        first.note(0, 0, 10);
+        first.note(8, 0, 10);
+        first.note(9, 0, 9);
+        due("behind day 9 the band has worn", first.ruled(0), 1);
+        first.note(9, 0, 10);
+        due("behind day 9 the band has worn", first.ruled(0), 0);
+        RowRing last = ring("smith 9 1;pair 0 5;saying 5", "say 1 if day = 60");
         last.note(59, 0, 0);
-        last.note(60, 0, 4);
-        due("behind the 60th day", last.ruled(1), 0);
+        last.note(60, 0, 5);
+        due("behind day 60", last.ruled(1), 0);
+        RowRing worn = ring("smith 9 1;pair 0 5;saying 5", "say 1 if day = 59");
+        worn.note(58, 0, 0);
+        worn.note(59, 0, 4);
+        due("made on day 59, worn behind it", worn.ruled(1), 0);
     }
 
     private static void looking() {
         RowRing r = ring(THREE, GENTLE);
-        // Behind day 1: 12, 11, 0 and 0, 0, 0; behind day 0 nobody has a band.
+        // Behind day 0: 12, 11, 0 by none and 0, 0, 0 by the rule; behind day 1: 12, 11, 0 and 15, 15, 0.
+        due("look(0, 0)", r.look(0, 0), 0);
+        due("look(0, 1)", r.look(0, 1), 1);
         due("look(1, 0)", r.look(1, 0), 0);
         due("look(1, 1)", r.look(1, 1), 1);
-        due("look(0, 0)", r.look(0, 0), 0);
-        due("look(0, 1)", r.look(0, 1), 2);
         due("look(60, 1)", r.look(60, 1) > 0 ? 1 : 0, 1);
         due("look(61, 0)", r.look(61, 0), NONE);
         due("look(-1, 0)", r.look(-1, 0), NONE);
         due("look(0, 2)", r.look(0, 2), NONE);
         due("look(0, -1)", r.look(0, -1), NONE);
         RowRing s = ring("smith 9 1;pair 0 99;pair 0 5;saying 5", "say 0", "say 1", "say 2 if day > 0");
-        // Behind day 1 pair 1 has 5, 0, 5, 0 by none and the rules 0 to 2.
-        due("look(1, 0)", s.look(1, 0), 1);
-        due("look(1, 1)", s.look(1, 1), 2);
-        due("look(2, 1)", s.look(2, 1), 3);
-        s.note(1, 1, 0);
-        due("by what fits the notes: rules 0 and 2", s.look(2, 1), 1);
-        due("behind a day ahead of the note", s.look(0, 1), 2);
+        // Pair 1 has 5, 0, 5, 0 behind day 0 by none and the rules 0 to 2, and 5, 0, 5, 5 behind day 1.
+        due("look(0, 0)", s.look(0, 0), 1);
+        due("look(0, 1)", s.look(0, 1), 2);
+        due("look(1, 1)", s.look(1, 1), 3);
+        s.note(0, 1, 0);
+        due("by what fits the notes: rules 0 and 2", s.look(1, 1), 1);
+        due("behind the day of the note", s.look(0, 1), 2);
+        s.note(2, 1, 5);
+        due("behind a day ahead of the last note", s.look(0, 1), 1);
+        s.note(NONE, 0, 0);
+        s.note(0, 1, 0);
         days(s, 3);
-        due("from the begin on", s.look(2, 1), 1);
-        s.note(1, 1, 5);
-        due("no rule is so", s.look(2, 0), -2);
-        due("no rule is so", s.look(2, 1), -2);
+        due("from the begin on", s.look(1, 1), 1);
+        s.note(0, 1, 5);
+        due("no rule is so", s.look(1, 0), -2);
+        due("no rule is so", s.look(1, 1), -2);
         due("no pairs", ring("smith 9 1").look(2, 0), -2);
         due("no pairs", ring("smith 9 1").look(2, 1), -2);
+        RowRing last = ring("smith 9 1;pair 0 5;saying 5", "say 0", "say 1 if day = 60");
+        // By none a band of 5 is made on days 0 and 50, so it is 4 wide behind days 59 and 60.
+        due("look(59, 1)", last.look(59, 1), 2);
+        due("look(60, 1)", last.look(60, 1), 1);
+        lookingAmongAll();
+    }
+
+    private static void lookingAmongAll() {
         RowRing six = ring("smith 99 1;pair 0 4;saying 4;saying 5;saying 6;saying 7;saying 8;saying 9",
             "say 1", "say 1 if saying = 1", "say 1 if saying = 2", "say 1 if saying = 3", "say 1 if saying = 4",
             "say 1 if saying = 5");
         // By none 9; by the rules 4, 5, 6, 7, 8, 9.
-        due("none and six rules", six.look(1, 1), 2);
+        due("none and six rules", six.look(0, 1), 2);
         due("none and six rules", six.ruled(0), 7);
-        six.note(1, 0, 8);
-        due("one alone", six.look(1, 1), 1);
-        due("one alone", six.look(1, 0), 0);
+        six.note(0, 0, 8);
+        due("one alone", six.look(0, 1), 1);
+        due("one alone", six.look(0, 0), 0);
         due("one alone", six.ruled(1), 4);
     }
 
@@ -1452,7 +1484,7 @@ public final class RowRingPromisesTest {
     private static void imaging() {
         RowRing r = ring(THREE, GENTLE);
         r.seed(9);
-        r.note(1, 0, 0);
+        r.note(0, 0, 0);
         days(r, 2);
         due("image(4)", r.image(4), NONE);
         due("image(-1)", r.image(-1), NONE);
