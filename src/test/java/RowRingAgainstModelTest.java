@@ -81,11 +81,7 @@ public final class RowRingAgainstModelTest {
         log.add("text: " + text);
         boolean fine = random.nextInt(8) != 0 ? call("end", 0) : call("count", 13);
         for (int i = 0; i < text.length(); i += 20) {
-            int[] n = new int[5];
-            for (int j = 0; j < 20; j++) {
-                n[j / 4] = n[j / 4] << 8 | (i + j < text.length() ? text.charAt(i + j) : 0);
-            }
-            fine &= call("feed", n);
+            fine &= call("feed", RowRingChecks.twenty(text, i));
         }
         return fine & call("end", text.length());
     }

@@ -1,23 +1,9 @@
 /** Each promise of the document, with answers worked out by hand. */
-public final class RowRingPromisesTest {
-    private static final int NONE = RowRing.NONE;
+public final class RowRingPromisesTest extends RowRingChecks {
     // Hurts: pair 0 by 5 and 6, pair 1 by 4 and 8, pair 2 by 4 and 6; pairs 0 and 1 are near each other.
     private static final String THREE = "smith 15 4;pair 3 12;pair 0 9;pair 7 30;"
         + "saying 4;saying 6;minds 0 0 1;minds 1 1 2;near 0 1";
     private static final String GENTLE = "say 9 - hurt - said * 3";
-    private static final int LOWEST = Integer.MIN_VALUE;
-    private static final int HIGHEST = Integer.MAX_VALUE;
-
-    private static int wrong = 0;
-    private static int looked = 0;
-
-    private static void due(String what, int got, int want) {
-        looked++;
-        if (got != want) {
-            wrong++;
-            System.out.println(what + " answered " + got + ", due is " + want);
-        }
-    }
 
     public static void main(String[] args) {
         newObject();
@@ -62,106 +48,7 @@ public final class RowRingPromisesTest {
         counting();
         imaging();
         askingChangesNothing();
-        System.out.println(wrong == 0 ? looked + " answers are as due" : wrong + " answers are not as due");
-        if (wrong != 0) {
-            System.exit(1);
-        }
-    }
-
-    // ---- helpers ----
-
-    private static void tell(RowRing r, String text) {
-        r.end(0);
-        for (int i = 0; i < text.length(); i += 20) {
-            int[] n = new int[5];
-            for (int j = 0; j < 20; j++) {
-                n[j / 4] = n[j / 4] << 8 | (i + j < text.length() ? text.charAt(i + j) : 0);
-            }
-            r.feed(n[0], n[1], n[2], n[3], n[4]);
-        }
-        r.end(text.length());
-    }
-
-    private static int smith(RowRing r, String text) {
-        tell(r, text);
-        return r.smith();
-    }
-
-    private static int rule(RowRing r, String text) {
-        tell(r, text);
-        return r.rule();
-    }
-
-    /** The rule that is the first n bytes of a text. */
-    private static int cutRule(RowRing r, String text, int n) {
-        tell(r, text);
-        r.end(n);
-        return r.rule();
-    }
-
-    private static RowRing ring(String smithy, String... rules) {
-        RowRing r = new RowRing();
-        if (smith(r, smithy) < 0) {
-            due("smith of " + smithy, -99, 0);
-        }
-        for (String text : rules) {
-            int number = rule(r, text);
-            if (number < 0) {
-                due("rule of " + text, number, 0);
-            }
-            r.force(number);
-        }
-        return r;
-    }
-
-    private static void days(RowRing r, int n) {
-        for (int i = 0; i < n; i++) {
-            r.day();
-        }
-    }
-
-    private static int fault(int place, int kind) {
-        return -2 - (1 + 8 * place + kind);
-    }
-
-    private static void smithFault(String text, int place, int kind) {
-        due("smith of '" + text + "'", smith(new RowRing(), text), fault(place, kind));
-    }
-
-    private static void ruleFault(String text, int place, int kind) {
-        due("rule of '" + text + "'", rule(new RowRing(), text), fault(place, kind));
-    }
-
-    private static void smithFine(String text, int pairs) {
-        due("smith of '" + text + "'", smith(new RowRing(), text), pairs);
-    }
-
-    private static void ruleFine(String text) {
-        due("rule of '" + text + "'", rule(new RowRing(), text), 0);
-    }
-
-    private static String all(RowRing r) {
-        StringBuilder b = new StringBuilder();
-        for (int what = 0; what < 14; what++) {
-            b.append(r.count(what)).append(' ');
-        }
-        for (int p = 0; p < r.count(2); p++) {
-            for (int what = 0; what < 5; what++) {
-                b.append(r.pair(p, what)).append(' ');
-            }
-            for (int s = 0; s < r.count(3); s++) {
-                b.append(r.saying(p, s, 0)).append(' ').append(r.saying(p, s, 1)).append(' ');
-            }
-        }
-        return b.append(r.ruled(0)).append(' ').append(r.ruled(1)).toString();
-    }
-
-    private static void same(String what, String got, String want) {
-        looked++;
-        if (!got.equals(want)) {
-            wrong++;
-            System.out.println(what + ": it is " + got + ", due is " + want);
-        }
+        finish();
     }
 
     // ---- 1 to 6: texts ----
@@ -459,6 +346,13 @@ public final class RowRingPromisesTest {
         ruleFault(twelve + ";", 72, 0);
     }
 
+    /** The rule that is the first n bytes of a text. */
+    private static int cutRule(RowRing r, String text, int n) {
+        tell(r, text);
+        r.end(n);
+        return r.rule();
+    }
+
     private static void rulesTaken() {
         RowRing r = new RowRing();
         due("a rule with a fault", rule(r, "say 1 if"), fault(8, 0));
@@ -643,25 +537,6 @@ public final class RowRingPromisesTest {
         RowRing x = ring("smith 9 1;pair 0 99;saying 5", "say 1 - 2");
         x.day();
         due("a sum below 0", x.saying(0, 0, 1), 0);
-    }
-
-    /** Whether pair 0 says saying 0 on the first day by a rule, which is all that the rule can have it say. */
-    private static boolean says(RowRing r, String rule) {
-        int number = rule(r, rule);
-        if (number < 0) {
-            due("rule of " + rule, number, 0);
-        }
-        r.force(number);
-        int before = r.saying(0, 0, 1);
-        r.day();
-        boolean said = r.saying(0, 0, 1) > before;
-        r.undo();
-        return said;
-    }
-
-    private static void holds(String test, boolean want) {
-        RowRing r = ring("smith 9 1;pair 7 99;pair 1 50;saying 4");
-        due("the test " + test, says(r, "say 1 if " + test) ? 1 : 0, want ? 1 : 0);
     }
 
     private static void word(RowRing r, int pair, int saying, String word, int value) {
