@@ -275,6 +275,7 @@ final class ActBoundaries extends Boundaries {
             + "(how much more it hurts them), said (how often they have said it), near (PAIRS near them that have no "
             + "BAND), bands (PAIRS that have one), rows (so far), day.", ActBoundaries::words);
         sentence(9, "TEST: PART { or PART }. PART: FACT { and FACT }.", ActBoundaries::tests);
+        sentence(9, "SUM: TERM { (+ or -) TERM }. TERM: VALUE { (* or / or %) VALUE }.", ActBoundaries::terms);
     }
 
     private static void sums() {
@@ -319,6 +320,14 @@ final class ActBoundaries extends Boundaries {
         }
         due("none that is near is without a BAND", says(full, "say 1 if near = 0 and bands = 4 and rows = 4") ? 1 : 0,
             1);
+        // Of the last PAIR and the last SAYING.
+        RowRing last = ring("smith 9 1;pair 0 99;pair 0 99;pair 0 99;pair 0 99;pair 6 98;saying 1;saying 2;saying 3;"
+            + "saying 4;saying 5;saying 6;minds 4 5 7;minds 0 5 8;minds 4 0 9",
+            "say 1 if pair = 4 and saying = 5 and temper = 18 and breaks = 98 and hurt = 6 and minds = 7 and said = 1");
+        last.say(4, 5);
+        last.soothe(4, 1);
+        last.day();
+        due("said by PAIR 4", last.saying(4, 5, 1), 2);
         RowRing later = ring("smith 1 1;pair 0 5;saying 5");
         days(later, 10);
         due("ROWS so far, and no BAND any more", says(later, "say 1 if rows = 1 and bands = 0 and day = 10 and said = 1")
@@ -334,6 +343,27 @@ final class ActBoundaries extends Boundaries {
         holds("1 = 2 or 1 = 2", false);
         holds("not 1 = 1 or 1 = 1", true);
         holds("not 1 = 2 and 1 = 2", false);
+    }
+
+    private static void terms() {
+        holds("2 + 3 * 4 = 14", true);
+        holds("2 * 3 + 4 = 10", true);
+        holds("14 = 2 + 3 * 4", true);
+        holds("9 - 3 - 2 = 4", true);
+        holds("9 - 3 + 2 = 8", true);
+        holds("9 + 3 - 2 - 1 = 9", true);
+        holds("9 - 6 / 3 = 7", true);
+        holds("9 - 7 % 4 = 6", true);
+        holds("24 / 4 / 2 = 3", true);
+        holds("24 / 4 * 2 = 12", true);
+        holds("3 * 17 % 10 = 1", true);
+        holds("17 % 10 * 3 = 21", true);
+        holds("17 % 10 / 3 = 2", true);
+        holds("1 + 1 < 1 + 2", true);
+        holds("1 + 2 <= 2 + 1", true);
+        holds("2 - 1 >= 3 - 2", true);
+        holds("2 * 2 > 9 % 5 - 1", true);
+        holds("1 + 1 = 3 - 1 and not 1 + 1 = 3", true);
     }
 
     // ---- 10 ----

@@ -66,6 +66,14 @@ final class AskedBoundaries extends Boundaries {
         // By the RULE PAIR 0 says SAYING 1 on DAY 0, as if nothing had been asked.
         due("day", r.day(), 1);
         due("said", r.saying(0, 1, 1), 1);
+        // That a PAIR was asked about at home, or a SAYING as struck, keeps nobody from hearing and saying.
+        RowRing heard = ring("smith 9 1;pair 0 99;pair 0 99;saying 8;near 0 1");
+        heard.home(1, 0);
+        heard.say(0, 0);
+        due("TEMPER of who hears it behind home", heard.pair(1, 0), 4);
+        heard.strike(30, 0);
+        heard.day();
+        due("said behind strike", heard.saying(1, 0, 1), 1);
         RowRing ruled = ring(ONE, "say 1 if day = 7");
         due("ROWS by the RULE IN FORCE", ruled.ahead(0, 7, 2), 0);
         ruled.force(NONE);
@@ -464,6 +472,8 @@ final class AskedBoundaries extends Boundaries {
         goldOf(bands(1, 2, 4), 7, 1, 2, 4);
         goldOf(bands(1, 2, 4), 9996, 1428, 2856, 5712);
         goldOf(bands(99), 9999, 9999);
+        goldOf(bands(1), 9999, 9999);
+        goldOf(bands(0, 1), 7, 0, 7);
         goldOf(bands(99, 0, 99), 9998, 4999, 0, 4999);
         RowRing r = bands(1, 2);
         beside("gold(.., 0)", much -> r.gold(much, 0), 0, 9999, NONE);
@@ -536,6 +546,8 @@ final class AskedBoundaries extends Boundaries {
         // 0 hears 2 and comes to 5, as 1, who says it, does.
         heardOf(ring("smith 9 1;pair 3 5;pair 0 5;saying 5;near 0 1"), 1, 0, 2, 0);
         heardOf(ring("smith 9 1;pair 2 4;pair 0 5;saying 5;near 0 1"), 1, 0, 2, 1);
+        // The least SIZE that there is.
+        heardOf(ring("smith 9 1;pair 0 9;pair 0 1;saying 2;near 0 1"), 0, 0, 1, 1);
     }
 
     private static void noneHeard() {
@@ -582,6 +594,12 @@ final class AskedBoundaries extends Boundaries {
         gameOf(r, 0, 2, 34, 0);
         gameOf(r, 0, 3, 43, 0);
         gameOf(r, 0, 4, 38, 0);
+        // By the DOOR alone, the third turn included: 23, 18, 21, 16.
+        RowRing door = ring("smith 9 1;pair 20 99;saying 2");
+        gameOf(door, 0, 1, 23, 1);
+        gameOf(door, 0, 2, 18, 1);
+        gameOf(door, 0, 3, 21, 1);
+        gameOf(door, 0, 4, 16, 1);
         for (int what = 0; what < 2; what++) {
             int asked = what;
             beside("game(0, .., " + what + ")", n -> r.game(0, n, asked), 1, 4, NONE);
@@ -756,6 +774,7 @@ final class AskedBoundaries extends Boundaries {
 
     private static void largestDays() {
         largestOf(ring(ONE), 1, 0, 5, 0);
+        largestOf(ring("smith 9 1;pair 0 1;saying 1"), 1, 0, 1, 0);
         RowRing last = ring(ONE, "say 1 if day = 59");
         largestOf(last, 59, -2);
         largestOf(last, 60, 0, 5, 59);

@@ -198,14 +198,12 @@ final class KeptBoundaries extends Boundaries {
         lookOf(ring(ONE), 0, 0, 1);
         // The last PAIR of five alone parts them.
         lookOf(ring("smith 9 1;pair 0 5;pair 0 5;pair 0 5;pair 0 5;pair 0 5;saying 5", "say 1 if pair < 4"), 0, 4, 1);
-        // The most alike count, not how many kinds there are: 0, 0, 0, 5, 6 of PAIR 0 and 0, 0, 5, 5, 5 of PAIR 1.
-        RowRing kinds = ring("smith 9 1;pair 0 5;pair 0 5;saying 5;saying 6", "say 0",
-            "say 1 if pair = 1 and saying = 0", "say 1 if pair = 1 and saying = 0;say 1 if pair = 0 and saying = 0",
-            "say 1 if pair = 0 and saying = 1 or pair = 1 and saying = 0", "say 0");
-        kinds.note(0, 1, 0);
-        kinds.note(NONE, 0, 0);
-        // By none both have 6.
-        lookOf(kinds, 0, 0, 3);
+        // The most alike count, not how many kinds there are: PAIR 0 has 7, 5, 6, 0, 0, 0 and PAIR 1 7, 7, 5, 5, 0, 0.
+        RowRing kinds = ring("smith 9 1;pair 0 5;pair 0 5;saying 5;saying 6;saying 7",
+            "say 1 if pair = 0 and saying = 0 or pair = 1 and saying = 2",
+            "say 1 if pair = 0 and saying = 1 or pair = 1 and saying = 0",
+            "say 1 if pair = 1 and saying = 0", "say 0", "say 0");
+        lookOf(kinds, 0, 1, 2);
     }
 
     private static void lookDays() {
@@ -448,6 +446,9 @@ final class KeptBoundaries extends Boundaries {
         r.force(NONE);
         r.seed(0);
         r.note(NONE, 0, 0);
+        for (int i = 0; i < 10; i++) {
+            r.note(19, 0, 3);
+        }
         days(r, 12);
         smith(r, "smith 1 1");
         tell(r, "say 0");
@@ -459,6 +460,8 @@ final class KeptBoundaries extends Boundaries {
         due("the RULE IN FORCE", r.count(5), 1);
         due("x", r.count(12), HIGHEST);
         due("NOTES", r.count(10), 10);
+        // By none and RULE 1 the BAND is 5 wide behind DAY 0, by the RULES 0 and 2 there is none.
+        due("NOTES are as they were", r.ruled(0), 2);
         due("the TAPE is the one of now", r.rule(), 3);
         same("the rest", most(all(r)), most(before));
     }

@@ -96,6 +96,13 @@ final class TextBoundaries extends Boundaries {
         tell(r, "say 1");
         due("end(0)", r.end(0), 0);
         due("rule of none", r.rule(), fault(0, 0));
+        // What stood behind is not read any more, be it that it would go on there.
+        tell(r, "say 1 if 1 <=2");
+        r.end(12);
+        due("rule of what ends ahead of =", r.rule(), fault(12, 0));
+        tell(r, "say daybreak");
+        r.end(7);
+        due("rule of what ends within a word", r.rule(), 1);
     }
 
     private static void noSuchEnd() {
@@ -120,15 +127,20 @@ final class TextBoundaries extends Boundaries {
     }
 
     private static void inItsPlace() {
-        RowRing r = ring(TWO);
+        RowRing r = ring(TWO + ";minds 0 0 1;minds 1 1 1");
+        r.say(0, 0);
         r.say(1, 0);
         r.say(1, 0);
         r.day();
         due("the same, but for minds and near", smith(r, "smith 9 8;pair 7 90;pair 0 9;saying 5;saying 2"), 2);
         due("bytes", r.count(13), 0);
-        due("nobody minds", r.saying(1, 0, 0), 5);
-        due("nobody is near", r.pair(0, 4), 0);
-        due("nothing was said", r.saying(1, 0, 1), 0);
+        for (int p = 0; p < 2; p++) {
+            for (int s = 0; s < 2; s++) {
+                due("nobody minds", r.saying(p, s, 0), s == 0 ? 5 : 2);
+                due("nothing was said", r.saying(p, s, 1), 0);
+            }
+            due("nobody is near", r.pair(p, 4), 0);
+        }
         due("DAY", r.count(6), 0);
         due("ROWS", r.count(8), 0);
         due("BANDS", r.count(7), 0);
@@ -373,6 +385,7 @@ final class TextBoundaries extends Boundaries {
         smithFault("smith 1 1;pairs 0 1", 10, 0);
         smithFault("smith 1 1;pai 0 1", 10, 0);
         smithFault("smith 1 1;Pair 0 1", 10, 0);
+        smithFault("smith 1 1;fair 0 1", 10, 0);
         smithFault("smith one 1", 6, 0);
     }
 
@@ -453,10 +466,14 @@ final class TextBoundaries extends Boundaries {
         same("behind it, and the TAPE is empty", all(r), before);
         due("the largest place", rule(r, "say 1;" + " ".repeat(394)), fault(400, 0));
         due("the next is RULE 1 all the same", rule(r, "say 1"), 1);
-        // What was read of those with a FAULT is no part of it.
+        // What was read of those with a FAULT is no part of it, and they leave nothing behind.
         r.force(1);
         due("RULE 1 says", r.say(0, 0) + r.day(), 0);
         due("said", r.saying(0, 0, 1), 3);
+        due("deep, and not closed", rule(r, "say 1 if not not [[[1 + 2"), fault(25, 0));
+        due("ten deep behind it", rule(r, "say 1 if " + "[".repeat(10) + "1<2" + "]".repeat(10)), 2);
+        due("too deep behind it", rule(r, "say 1 if " + "[".repeat(11)), fault(19, 2));
+        due("said by a RULE behind it", says(r, "say 1 if not [1 = 2]") ? 1 : 0, 1);
     }
 
     private static void seventhRule() {
@@ -532,6 +549,7 @@ final class TextBoundaries extends Boundaries {
         for (int i = 0; i < signs.length; i++) {
             for (int n = 1; n <= 3; n++) {
                 holds(n + signs[i] + "2", want[i][n - 1]);
+                holds("not " + n + signs[i] + "2", !want[i][n - 1]);
             }
         }
     }
@@ -551,6 +569,9 @@ final class TextBoundaries extends Boundaries {
         ruleFine("say pair + saying + temper + breaks + hurt + minds + said + near + bands + rows + day");
         ruleFault("say days", 4, 0);
         ruleFault("say da", 4, 0);
+        ruleFault("say dayz", 4, 0);
+        ruleFault("say daya", 4, 0);
+        ruleFault("say may", 4, 0);
         ruleFault("say Day", 4, 0);
         ruleFault("say saysaying", 4, 0);
         ruleFault("says 1", 0, 0);
@@ -583,6 +604,9 @@ final class TextBoundaries extends Boundaries {
         ruleFine("say 1 if " + "not ".repeat(10) + "1<2;say 1 if " + "not ".repeat(10) + "1<2");
         holds("not ".repeat(10) + "1 < 2", true);
         holds("not ".repeat(9) + "1 < 2", false);
+        // What stood ahead makes nothing less deep.
+        ruleFault("say 1 if 1+1*1<2 and [1-1<2] or " + "[".repeat(11), 42, 2);
+        ruleFault("say 1 if not [not 1<2] and " + "[".repeat(11), 37, 2);
     }
 
     private static void sixtyParts() {
@@ -634,6 +658,8 @@ final class TextBoundaries extends Boundaries {
         ruleFault("say 1; ", 7, 0);
         ruleFault("say 1;;say 1", 6, 0);
         ruleFault("say 1 if 1 <", 12, 0);
+        ruleFault("say 1 if 1 <=", 13, 0);
+        ruleFault("say 1 if 1 >=", 13, 0);
         ruleFault("say 1 if 1 < 2 and", 18, 0);
         ruleFault("say 1 if 1 < 2 or ", 18, 0);
         ruleFault("say not", 4, 0);
@@ -644,6 +670,7 @@ final class TextBoundaries extends Boundaries {
         ruleFault("say 1 if 1 < 2 < 3", 15, 0);
         ruleFault("say \u00ff", 4, 0);
         ruleFault("smith 1 1", 0, 0);
+        ruleFault("may 1", 0, 0);
     }
 
     private static void ruleMoreDigits() {
