@@ -149,7 +149,8 @@ final class ActBoundaries extends Boundaries {
         RowRing back = ring("smith 9 1;pair 0 2;pair 0 99;saying 5;near 0 1", "say 1 if pair = 1");
         due("a ROW behind its own turn", back.day(), 1);
         // What PAIR 0 does on the day is seen by PAIR 1.
-        RowRing seen = ring("smith 9 1;pair 0 5;pair 0 99;saying 5", "say 1 if pair = 0;say 1 if bands = 1 and rows = 1");
+        RowRing seen = ring("smith 9 1;pair 0 5;pair 0 99;saying 5",
+            "say 1 if pair = 0;say 1 if bands = 1 and rows = 1");
         due("day", seen.day(), 1);
         due("said by 1", seen.saying(1, 0, 1), 1);
         // A BAND that gets smooth on a day lets its PAIR say something on the next only.
@@ -271,9 +272,9 @@ final class ActBoundaries extends Boundaries {
 
     private static void dayRules() {
         sentence(9, "/ is towards 0, % its rest, both 0 by 0; all goes round in 64 bits.", ActBoundaries::sums);
-        sentence(9, "of a PAIR that has no BAND and a SAYING: pair, saying, temper, breaks, hurt (of the SAYING), minds "
-            + "(how much more it hurts them), said (how often they have said it), near (PAIRS near them that have no "
-            + "BAND), bands (PAIRS that have one), rows (so far), day.", ActBoundaries::words);
+        sentence(9, "of a PAIR that has no BAND and a SAYING: pair, saying, temper, breaks, hurt (of the SAYING), "
+            + "minds (how much more it hurts them), said (how often they have said it), near (PAIRS near them that have "
+            + "no BAND), bands (PAIRS that have one), rows (so far), day.", ActBoundaries::words);
         sentence(9, "TEST: PART { or PART }. PART: FACT { and FACT }.", ActBoundaries::tests);
         sentence(9, "SUM: TERM { (+ or -) TERM }. TERM: VALUE { (* or / or %) VALUE }.", ActBoundaries::terms);
     }
@@ -330,8 +331,8 @@ final class ActBoundaries extends Boundaries {
         due("said by PAIR 4", last.saying(4, 5, 1), 2);
         RowRing later = ring("smith 1 1;pair 0 5;saying 5");
         days(later, 10);
-        due("ROWS so far, and no BAND any more", says(later, "say 1 if rows = 1 and bands = 0 and day = 10 and said = 1")
-            ? 1 : 0, 1);
+        boolean said = says(later, "say 1 if rows = 1 and bands = 0 and day = 10 and said = 1");
+        due("ROWS so far, and no BAND any more", said ? 1 : 0, 1);
     }
 
     private static void tests() {

@@ -164,8 +164,8 @@ final class AskedBoundaries extends Boundaries {
 
     private static void bring() {
         sentence(16, "BRING of a PAIR without a BAND and a SIZE (1 to 120)", AskedBoundaries::sizes);
-        sentence(16, "the fewest SAYINGS said by them now, one behind the other (no DAY goes by, nobody hears), so that "
-            + "a ROW of just that SIZE comes by the last: how many", AskedBoundaries::justThatSize);
+        sentence(16, "the fewest SAYINGS said by them now, one behind the other (no DAY goes by, nobody hears), so "
+            + "that a ROW of just that SIZE comes by the last: how many", AskedBoundaries::justThatSize);
         sentence(16, "the first of the first such row (least numbers first)", AskedBoundaries::firstBrought);
         sentence(16, "BRING what 0: how many, 1: the first SAYING; -2: by none.", AskedBoundaries::broughtByNone);
         sentence(16, "NONE without these", AskedBoundaries::noBring);
@@ -363,6 +363,9 @@ final class AskedBoundaries extends Boundaries {
         homeOf(ring("smith 9 1;pair 0 4;pair 0 99;pair 0 9;pair 0 4;saying 9;near 0 1;near 2 3", quiet), 1, 0, 2);
         // PAIR 1 hears it and breaks, and all are silent; if it hears nothing, 2 and 3 break.
         homeOf(ring("smith 9 1;pair 0 99;pair 0 4;pair 0 9;pair 0 4;saying 9;near 0 1;near 2 3", quiet), 1, 1, 2);
+        // The last of five: if 4 hears nothing of 0, 1 has its turn and breaks, and 2 by hearing that.
+        homeOf(ring("smith 9 1;pair 0 99;pair 0 13;pair 0 4;pair 0 99;pair 0 4;saying 9;near 0 1;near 1 2;near 0 4",
+            quiet), 1, 4, 2);
         RowRing r = banded();
         homeOf(r, 1, NONE, 0);
     }
@@ -667,8 +670,8 @@ final class AskedBoundaries extends Boundaries {
     // ---- 24 ----
 
     private static void spark() {
-        sentence(24, "SPARK of a PAIR without a BAND: the fewest SAYINGS said by them now, one behind the other (no DAY "
-            + "goes by, nobody hears), by which a ROW of any SIZE comes.", AskedBoundaries::sparks);
+        sentence(24, "SPARK of a PAIR without a BAND: the fewest SAYINGS said by them now, one behind the other (no "
+            + "DAY goes by, nobody hears), by which a ROW of any SIZE comes.", AskedBoundaries::sparks);
         sentence(24, "-2: by none", AskedBoundaries::sparkByNone);
         sentence(24, "NONE without these", AskedBoundaries::noSpark);
     }
@@ -742,6 +745,8 @@ final class AskedBoundaries extends Boundaries {
     private static void leastCalm() {
         calmOf(ring("smith 9 1;pair 0 99;pair 9 10;pair 9 10;saying 1"), 1, 1, 1);
         calmOf(ring("smith 9 1;pair 9 99;pair 9 99;saying 1"), 1, NONE, 0);
+        // The last of five.
+        calmOf(ring("smith 9 1;pair 0 99;pair 0 99;pair 0 99;pair 0 99;pair 9 10;saying 1"), 1, 4, 0);
         // Be its TEMPER 0 or not, it breaks.
         calmOf(ring("smith 9 1;pair 4 5;saying 5"), 1, NONE, 1);
         RowRing r = banded();

@@ -29,8 +29,8 @@ final class KeptBoundaries extends Boundaries {
     // ---- 27 ----
 
     private static void note() {
-        sentence(27, "NOTES 0 to 9, told: behind the n-th DAY of all (0 to 60) a PAIR had a BAND so wide (0: none; 0 to "
-            + "99).", KeptBoundaries::notesTold);
+        sentence(27, "NOTES 0 to 9, told: behind the n-th DAY of all (0 to 60) a PAIR had a BAND so wide (0: none; 0 "
+            + "to 99).", KeptBoundaries::notesTold);
         sentence(27, "A NOTE (n NONE: there are none then, 0): how many", KeptBoundaries::notesGone);
         sentence(27, "-2, and nothing happens, without these, or if there are 10", KeptBoundaries::noNote);
     }
@@ -367,9 +367,9 @@ final class KeptBoundaries extends Boundaries {
     // ---- 32 ----
 
     private static void count() {
-        sentence(32, "What 0: WIDEST, 1: WEAR, 2: PAIRS, 3: SAYINGS, 4: RULES, 5: the RULE IN FORCE (NONE), 6: DAY, 7: "
-            + "PAIRS that have a BAND, as bits, 8: ROWS so far, 9: how wide all BANDS are, 10: NOTES, 11: ACTS that can "
-            + "be UNDONE, 12: x, 13: bytes of the TAPE.", KeptBoundaries::counts);
+        sentence(32, "What 0: WIDEST, 1: WEAR, 2: PAIRS, 3: SAYINGS, 4: RULES, 5: the RULE IN FORCE (NONE), 6: DAY, "
+            + "7: PAIRS that have a BAND, as bits, 8: ROWS so far, 9: how wide all BANDS are, 10: NOTES, 11: ACTS that "
+            + "can be UNDONE, 12: x, 13: bytes of the TAPE.", KeptBoundaries::counts);
         sentence(32, "NONE for others", KeptBoundaries::noCount);
     }
 

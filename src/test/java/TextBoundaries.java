@@ -514,6 +514,10 @@ final class TextBoundaries extends Boundaries {
         ruleFault(twelve + ";say 1", 72, 4);
         ruleFine("say 1" + " ".repeat(395));
         ruleFault("say 1" + " ".repeat(394) + "x", 399, 0);
+        ruleFault("say 1 if 1" + " ".repeat(389) + "<", 400, 0);
+        ruleFault("say 1 if 1" + " ".repeat(388) + "<=", 400, 0);
+        ruleFault("say 1 if" + " ".repeat(389) + "not", 400, 0);
+        ruleFine("say" + " ".repeat(394) + "day");
         RowRing r = ring("smith 9 1;pair 0 99;saying 5");
         due("the twelfth CLAUSE is said by", says(r, "say 0 if 1 > 2;".repeat(11) + "say 1") ? 1 : 0, 1);
     }
@@ -542,6 +546,8 @@ final class TextBoundaries extends Boundaries {
         ruleFault("say 1 if 1 <> 1", 12, 0);
         ruleFault("say 1 if [1] = 1", 11, 0);
         ruleFault("say [1]", 4, 0);
+        ruleFault("say 1 if [1 < 2] + 1 > 0", 17, 0);
+        ruleFault("say 1 if [1 < 2] < 3", 17, 0);
         // Ahead of, at and behind where both are alike.
         String[] signs = {"<", "<=", "=", ">=", ">"};
         boolean[][] want = {{true, false, false}, {true, true, false}, {false, true, false}, {false, true, true},
