@@ -273,8 +273,8 @@ final class ActBoundaries extends Boundaries {
     private static void dayRules() {
         sentence(9, "/ is towards 0, % its rest, both 0 by 0; all goes round in 64 bits.", ActBoundaries::sums);
         sentence(9, "of a PAIR that has no BAND and a SAYING: pair, saying, temper, breaks, hurt (of the SAYING), "
-            + "minds (how much more it hurts them), said (how often they have said it), near (PAIRS near them that have "
-            + "no BAND), bands (PAIRS that have one), rows (so far), day.", ActBoundaries::words);
+            + "minds (how much more it hurts them), said (how often they have said it), near (PAIRS near them that "
+            + "have no BAND), bands (PAIRS that have one), rows (so far), day.", ActBoundaries::words);
         sentence(9, "TEST: PART { or PART }. PART: FACT { and FACT }.", ActBoundaries::tests);
         sentence(9, "SUM: TERM { (+ or -) TERM }. TERM: VALUE { (* or / or %) VALUE }.", ActBoundaries::terms);
     }

@@ -138,11 +138,13 @@ class RowRingChecks {
         for (int what = 0; what < 14; what++) {
             b.append(r.count(what)).append(' ');
         }
-        for (int p = 0; p < r.count(2); p++) {
+        int pairs = r.count(2);
+        int sayings = r.count(3);
+        for (int p = 0; p < pairs; p++) {
             for (int what = 0; what < 5; what++) {
                 b.append(r.pair(p, what)).append(' ');
             }
-            for (int s = 0; s < r.count(3); s++) {
+            for (int s = 0; s < sayings; s++) {
                 b.append(r.saying(p, s, 0)).append(' ').append(r.saying(p, s, 1)).append(' ');
             }
         }
