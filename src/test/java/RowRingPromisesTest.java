@@ -598,6 +598,17 @@ public final class RowRingPromisesTest extends RowRingChecks {
         holds("1 > 2 and 1 < 2 or 1 < 2", true);
         holds("1 > 2 and [1 < 2 or 1 < 2]", false);
         holds("1 > 2 or 1 > 2 or 1 < 2", true);
+        // A sign stands between whole sums: by the value beside it alone these would hold.
+        holds("2 < 0 + 1", false);
+        holds("3 <= 1 + 1", false);
+        holds("3 = 2 + 2", false);
+        holds("3 >= 2 + 2", false);
+        holds("3 > 2 + 1", false);
+        holds("3 - 1 < 1 * 2", false);
+        holds("1 + 2 <= 1 + 1", false);
+        holds("1 + 3 = 1 + 2", false);
+        holds("1 + 2 >= 2 * 2", false);
+        holds("2 + 1 > 2 + 1", false);
         holds("2 + 3 * 4 = 14", true);
         holds("2 * 3 + 4 = 10", true);
         holds("9 - 3 - 2 = 4", true);
@@ -978,6 +989,9 @@ public final class RowRingPromisesTest extends RowRingChecks {
         RowRing r = ring("smith 1 1;pair 0 1;pair 0 1;saying 9;near 0 1");
         r.say(0, 0);
         due("with a band they sit all the same", r.benches(NONE), 2);
+        due("the bench beside", r.benches(1), 1);
+        smith(r, "smith 1 1;pair 0 1;pair 0 1");
+        due("of another smithy, the bench beside is gone", r.benches(1), 0);
         due("benches(5)", r.benches(5), -3);
         due("benches(-2)", r.benches(-2), -3);
         due("benches(lowest)", r.benches(LOWEST), -3);
